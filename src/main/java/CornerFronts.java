@@ -760,7 +760,8 @@ public final class CornerFronts {
     private static final class Ways {
         private static final int NO_PIECE = -1;
 
-        private Front of = null;
+        /** Never null: a FRONT of no EVENTS until one is given. */
+        private Front of = new Front();
         /** The ARC of each STRAND ahead of each EVENT, and behind the last one. */
         private final int[][] arcs = new int[MOST_EVENTS + 1][MOST_STRANDS];
         private final int[] birthOf = new int[MOST_ARCS];
@@ -935,7 +936,8 @@ public final class CornerFronts {
 
     /** Looks for the RULINGS of a FRONT, those that are not SWITCHED first. */
     private static final class Switching {
-        private Front of = null;
+        /** Never null: a FRONT of no EVENTS until one is given. */
+        private Front of = new Front();
         /** The mate of each STRAND ahead of each EVENT, and behind the last one. */
         private final int[][] mates = new int[MOST_EVENTS + 1][MOST_STRANDS];
         private final boolean[] maySwitch = new boolean[MOST_EVENTS];
@@ -988,17 +990,21 @@ public final class CornerFronts {
                 return;
             }
             int k = of.places[i];
-            boolean paired = mates[i][k] == k + 1;
             if (of.kinds[i] == BIRTH) {
                 pairNew(i, k);
                 search(i + 1, crossesMet, switched);
-            } else if (of.kinds[i] == DEATH) {
-                if (paired) {
-                    dropPair(i, k);
-                    search(i + 1, crossesMet, switched);
-                }
-            } else if (!paired) {
+            } else if (mates[i][k] == k + 1) {
+                searchPaired(i, crossesMet, switched);
+            } else if (of.kinds[i] == CROSS) {
                 searchCross(i, crossesMet, switched);
+            }
+        }
+
+        /** A pair may end at one corner, but its two STRANDS may not cross. */
+        private void searchPaired(int i, int crossesMet, int switched) {
+            if (of.kinds[i] == DEATH) {
+                dropPair(i, of.places[i]);
+                search(i + 1, crossesMet, switched);
             }
         }
 

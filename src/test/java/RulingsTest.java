@@ -51,8 +51,13 @@ public final class RulingsTest {
         counted("b0b2x1x1x1d2d0", 1, 0, 2, 0, 1);
         counted("b0b2x1x1x1d2d0", 2, 0, 2, 0, 1);
         counted("b0d0", 2, 1);
-        // pushed: the first two CROSSES of this trefoil are of other LEVELS
+        // a trefoil whose second BIRTH is pushed
         counted("b0b1x0x1x1x1x1d2d0", 0, 0, 2, 0, 1);
+        // PLUS ones of DEGREE -2 and 2 are SWITCHED in one of its two
+        String other = "b0b2x1x1x1x2x0x1x1d0d0";
+        counted(other, 0, 0, 1, 0, 1);
+        counted(other, 1, 0, 1, 0, 1);
+        counted(other, 2, 0, 1);
     }
 
     private static void firstOnes(String text, int sort, String want) {
@@ -73,6 +78,7 @@ public final class RulingsTest {
         firstOnes("b0b2x1x1x1d2b2x1x1x1d2d0", 0, "001001");
         firstOnes("b0b2x1x1x1x1d2d0", 0, "0000");
         firstOnes("b0b2x1x1x1x1x1d2d0", 0, "00001");
+        firstOnes("b0b2x1x1x1x2x0x1x1d0d0", 2, "0000001");
         CornerFronts x = Checks.with("b0x0d0", "b0b2x1x1d1d0");
         checks.due("no ruling", x.first(0, 0, 0), NONE);
         checks.due("no ruling", x.first(0, 1, 0), NONE);
