@@ -70,7 +70,8 @@ final class Checks {
     /** The text of a front, as its calls tell it. */
     static String text(CornerFronts x, int f) {
         StringBuilder b = new StringBuilder();
-        for (int i = 0; i < x.about(f, 0); i++) {
+        int events = x.about(f, 0);
+        for (int i = 0; i < events; i++) {
             b.append("bxd".charAt(x.event(f, i, 0))).append(x.event(f, i, 1));
         }
         return b.toString();

@@ -49,10 +49,11 @@ public final class InvarianceTest {
 
     private static String told(CornerFronts x, int pieces) {
         StringBuilder b = new StringBuilder();
+        int deaths = x.about(0, 2);
         for (int sort = 0; sort < (pieces == 1 ? 3 : 1); sort++) {
             for (int less = -16; less <= 12; less++) {
-                int n = less + x.about(0, 2);
-                b.append(n < 0 ? 0 : x.rulings(0, sort, n)).append(less == 12 ? "; " : " ");
+                int n = less + deaths;
+                b.append(n < 0 || n > 12 ? 0 : x.rulings(0, sort, n)).append(less == 12 ? "; " : " ");
             }
         }
         if (pieces == 1) {

@@ -3,8 +3,9 @@ import java.util.Random;
 /** Long runs of calls, drawn with fixed seeds, on the program and on the model: all answers agree. */
 public final class ModelTest {
     private static final Checks checks = new Checks("ModelTest");
-    private static final int RUNS = 600;
-    private static final int CALLS = 500;
+    private static final int RUNS = 1500;
+    /** What an object answers after 512 calls is free, and a step with its look around may need 160. */
+    private static final int CALLS = 512 - 160;
     private static final int[] EDGES = {
         Integer.MIN_VALUE, Integer.MIN_VALUE + 1, -1000, -2, -1, 0, 1, 2, 3, 4, 5, 7, 8, 9, 10, 11, 12, 13,
         29, 30, 31, 61, 62, 63, 120, 121, 1000, Integer.MAX_VALUE - 1, Integer.MAX_VALUE};
@@ -13,6 +14,7 @@ public final class ModelTest {
     private final int run;
     private final CornerFronts x = new CornerFronts();
     private final Model m = new Model();
+    private int calls = 0;
 
     private ModelTest(int run) {
         this.run = run;
@@ -22,9 +24,11 @@ public final class ModelTest {
     public static void main(String[] args) {
         for (int run = 0; run < RUNS; run++) {
             ModelTest test = new ModelTest(run);
-            for (int call = 0; call < CALLS; call += test.step()) {
-                test.sameFronts();
+            while (test.calls < CALLS) {
+                test.sameFront();
+                test.step();
             }
+            checks.holds("run " + run + " has at most 512 calls", test.calls <= 512);
         }
         checks.finish();
     }
@@ -43,38 +47,44 @@ public final class ModelTest {
     }
 
     private void due(String call, int got, int want) {
+        calls++;
         checks.due("run " + run + " " + call, got, want);
     }
 
-    /** What is refused changes nothing: all events are looked at, now and then. */
-    private void sameFronts() {
-        if (random.nextInt(10) != 0) {
+    /** What is refused changes nothing: all events of a front are looked at, now and then. */
+    private void sameFront() {
+        if (random.nextInt(4) != 0) {
             return;
         }
-        for (int f = 0; f < m.count(0); f++) {
-            for (int i = 0; i <= m.about(f, 0); i++) {
-                for (int what = 0; what < 3; what++) {
-                    due("event(" + f + ", " + i + ", " + what + ")", x.event(f, i, what), m.event(f, i, what));
-                }
+        int f = someFront();
+        for (int i = 0; i <= m.about(f, 0); i++) {
+            for (int what = 0; what < 3; what++) {
+                due("event(" + f + ", " + i + ", " + what + ")", x.event(f, i, what), m.event(f, i, what));
             }
         }
     }
 
-    private int step() {
+    private void step() {
         switch (random.nextInt(9)) {
             case 0:
-                return random.nextBoolean() ? tell(text()) : tell(spoilt(text()));
+                tell(random.nextBoolean() ? text() : spoilt(text()));
+                break;
             case 1:
-                return sheet();
+                sheet();
+                break;
             case 2:
-                return keep();
+                keep();
+                break;
             case 3:
             case 4:
-                return look();
+                look();
+                break;
             case 5:
-                return rule();
+                rule();
+                break;
             default:
-                return change();
+                change();
+                break;
         }
     }
 
@@ -147,14 +157,12 @@ public final class ModelTest {
         return b.toString();
     }
 
-    private int tell(String text) {
-        int calls = 0;
+    private void tell(String text) {
         int had = m.count(2);
         due("end(0)", x.end(0), m.end(0));
         for (int at = 0; at < text.length(); at += 8) {
             long v = Checks.eightBytes(text, at);
             due("feed", x.feed(v), m.feed(v));
-            calls++;
         }
         int n = random.nextInt(12) == 0 ? some(120) : Math.min(120, text.length());
         due("end(" + n + ") of " + had, x.end(n), m.end(n));
@@ -166,10 +174,9 @@ public final class ModelTest {
         due("front() of '" + text + "'", x.front(), m.front());
         due("fault() of '" + text + "'", x.fault(), m.fault());
         due("count(2)", x.count(2), m.count(2));
-        return calls + 7;
     }
 
-    private int sheet() {
+    private void sheet() {
         int k = some(4);
         int lane = some(3);
         int[] cells = someEvents();
@@ -186,10 +193,9 @@ public final class ModelTest {
         int of = random.nextInt(12) == 0 ? some(4) : k;
         due("draw", x.draw(of, as, from, events), m.draw(of, as, from, events));
         due("count(1)", x.count(1), m.count(1));
-        return cells.length + 3;
     }
 
-    private int keep() {
+    private void keep() {
         int f = someFront();
         int g = someFront();
         int what = some(3);
@@ -200,10 +206,9 @@ public final class ModelTest {
         for (int n = random.nextInt(4); n > 0; n--) {
             due("drop", x.drop(), m.drop());
         }
-        return 6;
     }
 
-    private int look() {
+    private void look() {
         int f = someFront();
         int i = someEvent(f);
         int k = some(10);
@@ -217,20 +222,18 @@ public final class ModelTest {
         due("link", x.link(f, piece, other), m.link(f, piece, other));
         due("sign", x.sign(f, i), m.sign(f, i));
         due("degree", x.degree(f, i), m.degree(f, i));
-        return 7;
     }
 
-    private int rule() {
+    private void rule() {
         int f = someFront();
         int sort = some(3);
         int n = random.nextInt(3) == 0 ? -1 : some(13);
         int i = some(Math.max(1, m.about(f, 1)));
         due("rulings", x.rulings(f, sort, n), m.rulings(f, sort, n));
         due("first", x.first(f, sort, i), m.first(f, sort, i));
-        return 2;
     }
 
-    private int change() {
+    private void change() {
         int f = someFront();
         int i = someEvent(f);
         int kind = some(5);
@@ -245,6 +248,5 @@ public final class ModelTest {
         if (random.nextInt(3) == 0) {
             due("add" + where, x.add(f, kind, end, k), m.add(f, kind, end, k));
         }
-        return 2;
     }
 }
