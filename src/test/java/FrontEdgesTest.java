@@ -23,6 +23,7 @@ public final class FrontEdgesTest {
     public static void main(String[] args) {
         copyOfNoFront();
         copyWhenFull();
+        copyOfItsOwn();
         dropOfNone();
         dropFreesTheNumber();
         eventOfNoSuchNumber();
@@ -70,6 +71,17 @@ public final class FrontEdgesTest {
             checks.due("9 copy", x.copy(0), f);
         }
         checks.dueText("9 the eighth", x, 7, FIFTEEN_PIECES);
+    }
+
+    /** What is done to the one is not done to the other. */
+    private static void copyOfItsOwn() {
+        CornerFronts x = Checks.with(TREFOIL);
+        x.copy(0);
+        checks.due("9 add to the first", x.add(0, 2, 1, 0), 9);
+        checks.dueText("9 the copy", x, 1, TREFOIL);
+        checks.due("9 push of the copy", x.push(1, 0, 1), 9);
+        checks.dueText("9 the first", x, 0, "b0b1d0b2x1x1x1d2d0");
+        checks.due("9 unlike", x.unlike(0, 1), 2);
     }
 
     // ---- 10

@@ -36,6 +36,7 @@ public final class MoveEdgesTest {
         straightenWhereItCanBe();
         straightenWhereItCanNotBe();
         movesOfTheLargest();
+        movesBehindOneAnother();
         addOfBadNumbers();
         addWhereNoStrandIs();
         addUpTo30Events();
@@ -108,6 +109,10 @@ public final class MoveEdgesTest {
         for (int kind = 1; kind < 5; kind++) {
             notMoved("b0d0".repeat(15), kind, 28, STATE);
         }
+        // the last two can be swapped
+        moved("b0b2d2d0", SWAP, 2, "b0b2d0d0");
+        moved("b0b2d0d0", SWAP, 2, "b0b2d2d0");
+        notMoved("b0b2d1d0", SWAP, 2, STATE);
     }
 
     /** Behind three BIRTHS come e (number 2) and g, then as many DEATHS as there are to be. */
@@ -309,6 +314,28 @@ public final class MoveEdgesTest {
         moved("b0d0".repeat(15), SWAP, 27, "b0d0".repeat(13) + "b0b2d0d0");
         moved("b0b2" + "x0x1x0".repeat(4) + "d0d0", SLIDE, 11, "b0b2" + "x0x1x0".repeat(3) + "x1x0x1d0d0");
         moved("b0b1" + "x0".repeat(10) + "x0x1d0d0", PULL, 12, "b0b1" + "x0".repeat(10) + "d1d0");
+    }
+
+    /** Nothing of a move, done or refused, is left for the next one. */
+    private static void movesBehindOneAnother() {
+        CornerFronts x = Checks.with("b0b1d1d0");
+        steps(x, "20 a pull that can not be", x.move(0, PULL, 1), STATE, "b0b1d1d0");
+        steps(x, "22 a push that can not be", x.push(0, 0, 0), STATE, "b0b1d1d0");
+        steps(x, "21 add", x.add(0, 2, 1, 1), 6, "b0b2d1b1d1d0");
+        steps(x, "21 add", x.add(0, 0, 1, 0), 9, "b0b1x0d1b2d1b1d1d0");
+        steps(x, "22 a push that can not be", x.push(0, 1, 8), STATE, "b0b1x0d1b2d1b1d1d0");
+        steps(x, "20 uncurl", x.move(0, UNCURL, 1), 6, "b0b2d1b1d1d0");
+        steps(x, "22 push", x.push(0, 0, 3), 8, "b0b2d1b0x1x0d1d0");
+        steps(x, "20 straighten", x.move(0, STRAIGHTEN, 1), 6, "b0b0x1x0d1d0");
+        steps(x, "20 a slide that can not be", x.move(0, SLIDE, 2), STATE, "b0b0x1x0d1d0");
+        steps(x, "20 pull", x.move(0, PULL, 1), 4, "b0b1d1d0");
+        steps(x, "20 a swap that can not be", x.move(0, SWAP, 1), STATE, "b0b1d1d0");
+        steps(x, "21 add", x.add(0, 3, 3, 0), 6, "b0b1d1b0d1d0");
+    }
+
+    private static void steps(CornerFronts x, String what, int got, int want, String text) {
+        checks.due(what + " to " + text, got, want);
+        checks.dueText(what, x, 0, text);
     }
 
     // ---- 21

@@ -143,6 +143,10 @@ public final class RulingEdgesTest {
         ruled(within + "x8x0" + withinEnd, 1, "00", 1, 0, 1);
         // as they are not SWITCHED the two pairs hold just one of each other's, until the next one
         ruled(within + "x8x0x0x8" + withinEnd, 0, "0000", 1, 0, 3, 0, 1);
+        // what is below leaves the mates of what is above, and the other way
+        ruled("b0b2b4b6b7x1x8x8x1d7d6d4d2d0", 0, "0000", 1, 0, 2, 0, 1);
+        ruled("b0b2b4b6b7x8x1x1x8d7d6d4d2d0", 0, "0000", 1, 0, 2, 0, 1);
+        ruled("b0b2b4b6b7x8x1x1x8d7d6d4d2d0", 1, "0000", 1, 0, 1);
     }
 
     private static void pairsMayNotCross() {
