@@ -337,6 +337,9 @@ public final class FrontEdgesTest {
         degrees("b0b1x0x1d1b1d0d0", 0, -2, -1);
         degrees("b0b1x0x1d1d0", -1, 0, 1);
         degrees("b0x0d0", -1, 1);
+        // 3 modulo 2, and -1 and 1 modulo 2
+        degrees("b0x0b0d1b0d1d0", 1, 1);
+        degrees("b0x0x0b1d0d0", 1, 1, 1);
         degrees("b0x0b0d1d0", 0, 1);
         // -3 modulo 4
         degrees("b0x0b1d0d0", -2, 1);

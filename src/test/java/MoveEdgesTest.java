@@ -354,6 +354,10 @@ public final class MoveEdgesTest {
         }
         for (int kind : new int[] {MIN, -1, 4, MAX}) {
             notAdded("b0d0", kind, 1, 0, BAD);
+            // ahead of FULL
+            notAdded("b0d0".repeat(15), kind, 1, 0, BAD);
+            notAdded("b0" + TWELVE_CROSSES + "d0", kind, 1, 0, BAD);
+            notAdded(TEN + TEN_END, kind, 5, 0, BAD);
         }
         for (int kind = 0; kind < 4; kind++) {
             for (int i : new int[] {MIN, -1, 3, 30, 31, MAX}) {
@@ -449,8 +453,10 @@ public final class MoveEdgesTest {
         }
         for (int kind : new int[] {MIN, -1, 2, MAX}) {
             notPushed("b0b1d1d0", kind, 1, BAD);
-            // ahead of STATE
+            // ahead of STATE, and of FULL
             notPushed("b0x0d0", kind, 1, BAD);
+            notPushed("b0b1d1d0" + "b0d0".repeat(13), kind, 1, BAD);
+            notPushed("b0b1" + TWELVE_CROSSES + "d1d0", kind, 1, BAD);
         }
         for (int kind = 0; kind < 2; kind++) {
             for (int i : new int[] {MIN, -1, 4, 30, MAX}) {

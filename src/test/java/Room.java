@@ -2,7 +2,8 @@ import java.util.function.ToIntFunction;
 
 /**
  * An object of which all is known: its fronts, its tape, its latest fault and its four
- * sheets. So a test can show that a call that is refused, or only looks, has changed nothing.
+ * sheets. So a test can show that a call that is refused, or only looks, has changed nothing,
+ * and one that is done nothing but what is told.
  */
 final class Room {
     static final int MOST_FRONTS = 8;
@@ -17,16 +18,20 @@ final class Room {
 
     final CornerFronts x;
     private final Checks checks;
+    /** Of the fronts, one after another. */
     private final String[] texts;
-    private final int copies;
 
     /** The fronts of these texts, and copies of the first one behind them. */
     Room(Checks checks, int copies, String... texts) {
         this.checks = checks;
-        this.texts = texts;
-        this.copies = copies;
+        this.texts = new String[texts.length + copies];
+        for (int f = 0; f < this.texts.length; f++) {
+            this.texts[f] = texts[f < texts.length ? f : 0];
+        }
         x = Checks.with(texts);
-        faultIsMet();
+        if (texts.length < MOST_FRONTS) {
+            meetFault(x);
+        }
         for (int c = 0; c < copies; c++) {
             x.copy(0);
         }
@@ -39,8 +44,9 @@ final class Room {
         Checks.tape(x, TAPE);
     }
 
-    private void faultIsMet() {
-        if (texts.length < MOST_FRONTS && Checks.front(x, "b1") != -11) {
+    /** The latest fault becomes the one that is known; the tape is empty before and behind. */
+    static void meetFault(CornerFronts x) {
+        if (Checks.front(x, "b1") != -11) {
             throw new IllegalStateException("there is no fault to be met");
         }
     }
@@ -55,20 +61,25 @@ final class Room {
         new Room(checks, MOST_FRONTS - 1, text).stays(what, want, call);
     }
 
-    private void stays(String what, int want, ToIntFunction<CornerFronts> call) {
+    /** The fronts are then as these texts say, and all else is as it was. */
+    void changes(String what, int want, ToIntFunction<CornerFronts> call, String... textsThen) {
         checks.due(what, call.applyAsInt(x), want);
-        same(what);
+        same(what, textsThen);
+    }
+
+    private void stays(String what, int want, ToIntFunction<CornerFronts> call) {
+        changes(what, want, call, texts);
     }
 
     /** Looks at everything; the room is used up then. */
-    private void same(String what) {
-        int fronts = texts.length + copies;
+    private void same(String what, String[] textsThen) {
+        int fronts = textsThen.length;
         checks.due(what + ": fronts", x.count(0), fronts);
         checks.due(what + ": cells", x.count(1), CELLS.length);
         checks.due(what + ": bytes", x.count(2), TAPE.length());
         checks.due(what + ": fault", x.fault(), FAULT);
         for (int f = 0; f < fronts; f++) {
-            checks.dueText(what + ": front " + f, x, f, texts[f < texts.length ? f : 0]);
+            checks.dueText(what + ": front " + f, x, f, textsThen[f]);
         }
         if (fronts == MOST_FRONTS) {
             checks.due(what + ": the latest goes", x.drop(), fronts - 1);

@@ -31,6 +31,7 @@ public final class RulingEdgesTest {
         firstOfMorePieces();
         firstOfNone();
         firstOfTheLargest();
+        firstIsNotTheOneOfFewest();
         the512thCall();
         checks.finish();
     }
@@ -224,6 +225,14 @@ public final class RulingEdgesTest {
         checks.due("19 cross 12 of 12", x.first(1, 0, 12), BAD);
     }
 
+    /** The first CROSSES come ahead of how many are SWITCHED: these have a RULING with just one. */
+    private static void firstIsNotTheOneOfFewest() {
+        ruled("b0b2b1x0x3x2x0x2x3x1d2d0d0", 0, "0101010", 0, 1, 0, 3, 0, 1);
+        ruled("b0b2b1x0x3x2x0x2x3x1d2d0d0", 1, "1000000", 0, 1);
+        ruled("b0b1b4x3x2x0x3x3x0x1d2d0d0", 0, "0110100", 0, 1, 0, 3, 0, 1);
+        ruled("b0b1b4x3x2x0x3x3x0x1d2d0d0", 1, "0110100", 0, 1, 0, 3, 0, 1);
+    }
+
     // ---- an object is used for at most 512 calls, and all of them answer
 
     private static void the512thCall() {
@@ -239,5 +248,16 @@ public final class RulingEdgesTest {
             checks.due("18 call " + calls, x.rulings(0, calls % 3, -1), 81);
         }
         checks.due("19 the 512th call", x.first(0, 2, 11), 1);
+        looksUpTo512();
+    }
+
+    /** As many of the calls as can be ask of a FRONT: one feeds it and one tells it. */
+    private static void looksUpTo512() {
+        CornerFronts x = new CornerFronts();
+        x.feed(Checks.eightBytes("b0x0d0", 0));
+        checks.due("4 front", x.front(), 0);
+        for (int call = 2; call < 512; call++) {
+            checks.due("11 call " + call, x.event(0, call % 3, 0), call % 3);
+        }
     }
 }
